@@ -35,6 +35,7 @@ public final class TrueInk {
     private static final int BLACK = 4;
     private static final int SHADE_COUNT = 5;
     private static final int SHADINGS_MOST = 15625;
+    private static final int KEPT_DAYS = 4099;
     private static final int[] FIVES = {1, 5, 25, 125, 625, 3125, 15625};
 
     // The places in a row; facts stand first.
@@ -629,6 +630,8 @@ public final class TrueInk {
         int yours;
         int worldCount = 1;
         int length;
+        /** Facts and shades alone say what they are on the next day, whichever it is. */
+        boolean steady = true;
         final int[] most = new int[FACTS_MOST];
         final int[] told = new int[FACTS_MOST];
         final int[] counts = new int[FACTS_MOST];
@@ -649,6 +652,7 @@ public final class TrueInk {
             yours = 0;
             worldCount = 1;
             length = 0;
+            steady = true;
             Arrays.fill(claimCount, 0);
             Arrays.fill(loose, 0);
             Arrays.fill(law, NONE);
@@ -733,7 +737,10 @@ public final class TrueInk {
             findFirm(row);
             been[0] = shadesOf(row);
             for (int step = 1; step <= STEPS_MOST; step++) {
-                int shades = stepFrom(row);
+                int shades = 0;
+                for (int p = script.pages - 1; p >= 0; p--) {
+                    shades = shades * SHADE_COUNT + shadeAnew(p, row);
+                }
                 if (shades == been[step - 1]) {
                     end(row, SETTLED, step - 1, 0, 0);
                     return;
@@ -750,7 +757,7 @@ public final class TrueInk {
             end(row, WILD, STEPS_MOST, 0, 0);
         }
 
-        /** Has to come ahead of stepFrom and shadeAnew whenever facts or the day are others. */
+        /** Has to come ahead of shadeAnew whenever facts or the day are others. */
         void findFirm(int[] row) {
             for (int p = 0; p < script.pages; p++) {
                 firm[p] = 0;
@@ -815,14 +822,6 @@ public final class TrueInk {
             return run(script.claim[page * CLAIMS_MOST + claim], row) && value != 0;
         }
 
-        private int stepFrom(int[] row) {
-            int shades = 0;
-            for (int p = script.pages - 1; p >= 0; p--) {
-                shades = shades * SHADE_COUNT + shadeAnew(p, row);
-            }
-            return shades;
-        }
-
         private int shadeBy(int page, int hold) {
             int claims = script.claimCount[page];
             switch (script.shading[page]) {
@@ -869,7 +868,7 @@ public final class TrueInk {
             int[] code = script.code;
             int length = script.length;
             int top = 0;
-            for (int at = Math.max(from, 0); at < length; at++) {
+            for (int at = from; at >= 0 && at < length; at++) {
                 int op = code[at] & OP_MASK;
                 int with = code[at] >> OP_BITS;
                 if (op <= VAR) {
@@ -1267,6 +1266,10 @@ public final class TrueInk {
         }
 
         int hopesFor(int page, int n, int seeds, int[] now) {
+            if (press.script.slips == 0) {
+                // No seed makes a difference then.
+                return shadeIn(shadesAt(n, now), page) == BLACK ? seeds : 0;
+            }
             int black = 0;
             for (int s = 0; s < seeds; s++) {
                 System.arraycopy(now, 0, hoped, 0, WIDTH);
@@ -1295,6 +1298,8 @@ public final class TrueInk {
         /** Day by day the shades of all worlds. */
         private int[] shades = new int[1];
         private int[] marks = new int[1];
+        private int[] from = new int[1];
+        private int[] into = new int[1];
 
         Begun(Press press) {
             this.press = press;
@@ -1464,20 +1469,44 @@ public final class TrueInk {
                 shades = roomFor(shades, (BEGUN_MOST + 1) * count);
             }
             for (int d = reached + 1; d <= n && d <= BEGUN_MOST; d++) {
+                if (d == 1 || !script.steady) {
+                    forgetDays();
+                }
                 for (int w = 0; w < count; w++) {
                     if (d == 0) {
                         press.begin(row, w);
+                        worlds[w] = w;
+                        shades[w] = shadesOf(row);
                     } else {
-                        script.putFacts(row, worlds[w]);
-                        putShades(row, shades[(d - 1) * count + w]);
-                        row[DAY] = d - 1;
-                        press.oneDay(row, script.seed);
+                        int then = dayFrom(worlds[w] * SHADINGS_MOST + shades[(d - 1) * count + w], d - 1);
+                        worlds[w] = then / SHADINGS_MOST;
+                        shades[d * count + w] = then % SHADINGS_MOST;
                     }
-                    worlds[w] = script.worldOf(row);
-                    shades[d * count + w] = shadesOf(row);
                 }
                 reached = d;
             }
+        }
+
+        private void forgetDays() {
+            if (from.length < KEPT_DAYS) {
+                from = new int[KEPT_DAYS];
+                into = new int[KEPT_DAYS];
+            }
+            Arrays.fill(from, NONE);
+        }
+
+        /** World and shades as one number. Worlds run together, so most days went by already from another one. */
+        private int dayFrom(int state, int day) {
+            int kept = state % KEPT_DAYS;
+            if (from[kept] != state) {
+                press.script.putFacts(row, state / SHADINGS_MOST);
+                putShades(row, state % SHADINGS_MOST);
+                row[DAY] = day;
+                press.oneDay(row, press.script.seed);
+                from[kept] = state;
+                into[kept] = press.script.worldOf(row) * SHADINGS_MOST + shadesOf(row);
+            }
+            return into[kept];
         }
     }
 
@@ -1556,6 +1585,7 @@ public final class TrueInk {
             }
             if (fault == 0) {
                 findLoose();
+                into.steady = into.slips == 0 && !looksAtDay();
             }
             return fault;
         }
@@ -1563,13 +1593,12 @@ public final class TrueInk {
         /** One token more than may be, or the first that is none, is the last one cut: there is a fault at it. */
         void cut(byte[] tape, int length) {
             tokens = 0;
+            int end = 0;
             boolean more = true;
-            for (int i = 0; i < length && more; ) {
-                if (isBlank(tape[i])) {
-                    i++;
-                } else {
+            for (int i = 0; i < length && more; i++) {
+                if (i >= end && !isBlank(tape[i])) {
                     places[tokens] = i;
-                    i = cutOne(tape, i, length);
+                    end = cutOne(tape, i, length);
                     more = kinds[tokens] != NO_TOKEN && tokens < TOKENS_MOST;
                     tokens++;
                 }
@@ -1876,6 +1905,15 @@ public final class TrueInk {
             for (int i = from; i >= 0 && i < into.length && into.code[i] != END; i++) {
                 int with = into.code[i] >> OP_BITS;
                 if ((into.code[i] & OP_MASK) == VAR && with >= SHADES && with < DAY) {
+                    return true;
+                }
+            }
+            return false;
+        }
+
+        private boolean looksAtDay() {
+            for (int i = 0; i < into.length; i++) {
+                if (into.code[i] == (DAY << OP_BITS | VAR)) {
                     return true;
                 }
             }

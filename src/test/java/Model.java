@@ -702,6 +702,11 @@ final class Model {
         return s;
     }
 
+    /** What really is the shade of a page behind n days of the text. */
+    int truly(int page, int n) {
+        return noPage(page) ? 0 : begunIn(number(startFacts()), n).shades[page];
+    }
+
     private boolean noPage(int page) {
         return page < 0 || page >= text.pages.size();
     }

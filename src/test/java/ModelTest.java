@@ -15,7 +15,7 @@ public final class ModelTest {
     private static final java.util.TreeMap<String, java.util.TreeMap<Object, Integer>> ANSWERS = new java.util.TreeMap<>();
 
     public static void main(String[] args) throws Exception {
-        int runs = args.length > 0 ? Integer.parseInt(args[0]) : 1500;
+        int runs = args.length > 0 ? Integer.parseInt(args[0]) : 1000;
         if (args.length > 1) {
             RANDOM.setSeed(Long.parseLong(args[1]));
         }
@@ -45,14 +45,14 @@ public final class ModelTest {
         List<String> log = new ArrayList<>();
         Texts texts = new Texts(RANDOM);
         int most = 40 + RANDOM.nextInt(60);
-        boolean faulty = run % 2 == 0;
+        boolean faulty = run % 3 == 0;
         for (int i = 0; i < most; i++) {
             if (i == 0 || RANDOM.nextInt(faulty ? 3 : 40) == 0) {
                 tell(ink, model, log, faulty ? texts.broken() : texts.whole());
             }
             Method[] m = FACE.get(RANDOM.nextInt(FACE.size()));
             if (!m[0].getName().equals("feed")) {
-                both(ink, model, log, m, argumentsFor(m[0]));
+                both(ink, model, log, m, argumentsFor(m[0], ink, model));
             }
             if (wrong > 0) {
                 System.out.println("in run " + run + ":\n  " + String.join("\n  ", log));
@@ -112,9 +112,16 @@ public final class ModelTest {
         }
     }
 
-    private static Object[] argumentsFor(Method m) {
+    private static int oneUpTo(int n) {
+        return n <= 0 || RANDOM.nextInt(12) == 0 ? small() : RANDOM.nextInt(n);
+    }
+
+    private static Object[] argumentsFor(Method m, TrueInk ink, Model model) {
         int n = m.getParameterCount();
         Object[] all = new Object[n];
+        int page = oneUpTo(ink.count(1));
+        int fact = oneUpTo(ink.count(0));
+        int known = oneUpTo(ink.count(9) + 1);
         for (int i = 0; i < n; i++) {
             all[i] = m.getParameterTypes()[i] == boolean.class ? (Object) RANDOM.nextBoolean() : (Object) small();
         }
@@ -129,8 +136,29 @@ public final class ModelTest {
             case "stands":
                 all[0] = index;
                 break;
+            case "fact":
+            case "set":
+                all[0] = fact;
+                break;
+            case "wipe":
+            case "least":
+            case "when":
+            case "stays":
+            case "blackIn":
+            case "grey":
+            case "weakest":
+                all[0] = page;
+                break;
+            case "weight":
+                all[0] = page;
+                all[1] = fact;
+                break;
+            case "sure":
+                all[0] = known;
+                break;
             case "longest":
             case "shade":
+                all[0] = page;
                 all[1] = daysUpTo(300);
                 break;
             case "changed":
@@ -141,23 +169,31 @@ public final class ModelTest {
                 all[0] = daysUpTo(30);
                 break;
             case "rests":
+                all[0] = page;
+                all[1] = oneUpTo(ink.count(1));
                 all[2] = index;
                 break;
             case "hopes":
+                all[0] = page;
                 all[1] = daysUpTo(100);
                 all[2] = RANDOM.nextInt(5) == 0 ? RANDOM.nextInt(23) - 1 : 1 + RANDOM.nextInt(4);
                 break;
             case "see":
+                all[0] = page;
                 all[1] = daysUpTo(30);
-                all[2] = RANDOM.nextInt(8) == 0 ? small() : RANDOM.nextInt(3) * 2;
+                boolean odd = RANDOM.nextInt(6) == 0 || (int) all[1] < 0 || (int) all[1] > 30;
+                all[2] = odd ? small() : model.truly(page, (int) all[1]);
                 break;
             case "fits":
+                all[0] = known;
                 all[1] = index;
                 break;
             case "next":
+                all[0] = known;
                 all[1] = daysUpTo(30);
                 break;
             case "page":
+                all[0] = page;
                 all[1] = RANDOM.nextInt(9) - 1;
                 break;
             case "count":

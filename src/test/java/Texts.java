@@ -37,9 +37,10 @@ final class Texts {
         tokens.clear();
         names.clear();
         loopy = oneIn(3);
-        worldsMost = oneIn(12) ? 300 : 40;
-        int facts = upTo(oneIn(4) ? 8 : 4);
-        int pages = upTo(oneIn(4) ? 6 : 4);
+        boolean wild = oneIn(10);
+        worldsMost = wild ? 12 : oneIn(20) ? 300 : 40;
+        int facts = oneIn(20) ? 0 : 1 + upTo(oneIn(4) ? 7 : 3);
+        int pages = wild ? 4 : oneIn(20) ? 0 : 1 + upTo(oneIn(4) ? 5 : 3);
         List<String> factNames = new ArrayList<>();
         List<String> pageNames = new ArrayList<>();
         for (int i = 0; i < facts; i++) {
@@ -65,11 +66,10 @@ final class Texts {
             add(";");
         }
         names.addAll(pageNames);
-        List<Integer> order = new ArrayList<>();
-        for (int p = 0; p < pages; p++) {
-            order.add(p);
+        if (wild) {
+            wildPages(pageNames);
         }
-        for (String name : pageNames) {
+        for (String name : wild ? new ArrayList<String>() : pageNames) {
             if (!told.isEmpty() && oneIn(2)) {
                 goes(oneOf(told));
             }
@@ -236,6 +236,21 @@ final class Texts {
             }
         }
         add(";");
+    }
+
+    /** Each of four is what the next one was, the last a sum of all, by 5: round in up to 624 steps. */
+    private void wildPages(List<String> four) {
+        String sum = (1 + upTo(3)) + "*" + four.get(0);
+        for (int i = 1; i < 4; i++) {
+            sum += "+" + upTo(4) + "*" + four.get(i);
+        }
+        sum = "(" + sum + "+" + (1 + upTo(3)) + (oneIn(2) ? "+" + oneOf(names) : "") + (oneIn(4) ? "+day" : "") + ")";
+        for (int i = 0; i < 4; i++) {
+            add("page", four.get(i), "part");
+            for (int c = 0; c < 4; c++) {
+                add((i < 3 ? four.get(i + 1) : sum + "-" + sum + "/5*5") + ">" + c, c < 3 ? "and" : ";");
+            }
+        }
     }
 
     /** The rest of a sum by 5, above something: pages with these go a long way round. */
