@@ -36,6 +36,9 @@ public final class PromisesTest {
         fewest();
         slots();
         counts();
+        askedFirst();
+        allBlack();
+        textAfterText();
         Due.end();
     }
 
@@ -326,6 +329,16 @@ public final class PromisesTest {
             }
         }
         Due.is("some slipped, some not", slipped > 20 && slipped < 100, true);
+        TrueInk u = Due.told("fact a 1 0; slips 50;");
+        int a = 0;
+        for (int d = 0; d < 20; d++) {
+            a = Due.lot(0, 8 * d) < 50 ? 1 - a : a;
+            u.days(1);
+            Due.is("seed 0 if not told, on day " + (d + 1), u.fact(0), a);
+        }
+        Due.is("read behind another seed", Due.read(u, "seed 77;") + Due.read(u, "fact a 1 0; slips 50;"), 0);
+        u.days(20);
+        Due.is("seed 0 again", u.fact(0), a);
         TrueInk z = Due.told("fact a 3 0; slips 100; slips 0; seed 1;");
         z.days(50);
         Due.is("the last slips", z.fact(0), 0);
@@ -467,6 +480,10 @@ public final class PromisesTest {
         Due.is("where it is", x.least(0, 1), 5);
         x.wipe(0, true);
         Due.is("a wiped one", x.least(0, 0), -2);
+        TrueInk e = Due.told("fact a 1 0;fact b 1 0;fact c 1 0;fact d 1 0;fact e 1 0;fact f 1 0;fact g 1 0;fact h 1 0;"
+                + "page p all a+b+c+d+e+f+g+h=8;");
+        Due.is("all eight", e.least(0, 0), 8);
+        Due.is("the last world", e.least(0, 1), 255);
         // It blinks, and has come round to white: only as it is, without settling anew, could it be black.
         TrueInk y = Due.told("fact a 1 0; page p all this=0; page q all this=0 and a=1;");
         Due.is("liar", y.least(0, 0), -2);
@@ -897,5 +914,59 @@ public final class PromisesTest {
         Due.is("count(MIN)", x.count(Integer.MIN_VALUE), -1);
         x.days(9);
         Due.is("the day", x.count(2), 9);
+    }
+
+    /** No answer leans on another question asked ahead of it. */
+    private static void askedFirst() {
+        Due.is("blackIn", Due.told(ROUND).blackIn(4), 2);
+        Due.is("grey", Due.told(ROUND).grey(4, false), 5);
+        Due.is("weight", Due.told(ROUND).weight(4, 0), 3);
+        Due.is("weakest", Due.told(ROUND).weakest(4, 1), 2);
+        Due.is("bestWorld", Due.told(ROUND).bestWorld(2), 1);
+        Due.is("least", Due.told(ROUND).least(4, 1), 2);
+        Due.is("rests", Due.told(ROUND).rests(0, 4, -1), 1);
+        Due.is("again", Due.told(ROUND).again(0), 4);
+        Due.is("shade", Due.told(ROUND).shade(4, 1), 2);
+        TrueInk x = Due.told(ROUND);
+        x.see(4, 1, 2);
+        Due.is("sure", x.sure(1), 1);
+        TrueInk y = Due.told(ROUND);
+        y.see(4, 3, 0);
+        Due.is("next", y.next(1, 1, 1), 1);
+        TrueInk z = Due.told(ROUND);
+        z.see(1, 3, 0);
+        Due.is("fits", z.fits(1, 0), 0);
+    }
+
+    private static void allBlack() {
+        TrueInk x = Due.told("fact a 1 0; page p all 1=1; page q all 1=1; page r all 1=1; page s all 1=1; page t all 1=1; page u all 1=1;");
+        Due.is("black", x.count(4), 63);
+        Due.is("the last number", x.stands(0), 15624);
+        x.see(0, 30, 4);
+        x.see(5, 30, 4);
+        x.see(5, 1, 4);
+        Due.is("behind days", x.fits(3, -1), 2);
+        Due.is("twins", x.twins(30, 1), 1);
+        Due.is("ahead", x.shade(5, 300), 4);
+    }
+
+    private static void textAfterText() {
+        TrueInk x = Due.told("fact a 3 0 mine; fact b 3 0 yours; goes a = 3; goes b = 3; slips 100;"
+                + "page p part q=0 and q=1 and q=2 and q=3 and q=4; page q all p=0 and day>0;");
+        x.days(2);
+        x.twins(30, 0);
+        Due.is("another", Due.read(x, "fact a 3 0; fact b 1 1; page p all a=0; page q some p=4 and b=0;"), 0);
+        Due.is("whose", x.count(11) + x.count(12), 0);
+        Due.is("slips", x.count(3), 0);
+        Due.is("black", x.count(4), 3);
+        Due.is("how many claims", x.page(0, 3), 1);
+        Due.is("worlds", x.world(1), 8);
+        x.days(1);
+        Due.is("no law, no slip", x.world(0), 4);
+        Due.is("twins", x.twins(3, 1), 2);
+        Due.is("lesser", x.twins(3, 0), 1);
+        Due.is("black in", x.blackIn(0), 2);
+        Due.is("stands", x.stands(-1), 1);
+        Due.is("which", x.stands(0), 24);
     }
 }
