@@ -1,9 +1,5 @@
 /** Each promise by itself, with answers that can be worked out by hand. */
 public final class PromisesTest {
-    /** a goes 0, 1, 2, 3, 0, ..; each page is black on some of these days. */
-    private static final String ROUND = "fact a 3 0; goes a = if a<3 then a+1 else 0;"
-            + "page two all a=2; page low all a<3; page never all a>3; page ever all a<4; page half part a>0 and a>1;";
-
     public static void main(String[] args) {
         newObject();
         feedAndBack();
@@ -250,7 +246,7 @@ public final class PromisesTest {
     }
 
     private static void days() {
-        TrueInk x = Due.told(ROUND);
+        TrueInk x = Due.told(Samples.ROUND);
         Due.is("days(0)", x.days(0), 0);
         Due.is("no thing done", x.count(8), 0);
         Due.is("days(-1)", x.days(-1), -1);
@@ -427,10 +423,8 @@ public final class PromisesTest {
         Due.is("world(0)", x.world(0), 4);
     }
 
-    private static final String ANY = " part this>0 and this>1 and this>2 and this>3;";
-
     private static void stands() {
-        TrueInk x = Due.told("page p" + ANY + "page q all p>1; page r some this=4 and p=0;");
+        TrueInk x = Due.told("page p" + Samples.ANY + "page q all p>1; page r some this=4 and p=0;");
         // p is anything, q as p tells; r may be black, and must be where p is white.
         int[] sorted = {1, 22, 23, 24, 100, 101, 122, 123, 124};
         Due.is("how many", x.stands(-1), sorted.length);
@@ -443,7 +437,7 @@ public final class PromisesTest {
         x.wipe(0, true);
         Due.is("p wiped", x.stands(-1), 1);
         Due.is("r is black", x.stands(0), 100);
-        TrueInk y = Due.told("page a" + ANY + "page b" + ANY + "page c" + ANY + "page d" + ANY + "page e" + ANY + "page f" + ANY);
+        TrueInk y = Due.told("page a" + Samples.ANY + "page b" + Samples.ANY + "page c" + Samples.ANY + "page d" + Samples.ANY + "page e" + Samples.ANY + "page f" + Samples.ANY);
         Due.is("all", y.stands(-1), 15625);
         Due.is("first", y.stands(0), 0);
         Due.is("some", y.stands(7777), 7777);
@@ -498,7 +492,7 @@ public final class PromisesTest {
     }
 
     private static void daysAhead() {
-        TrueInk x = Due.told(ROUND);
+        TrueInk x = Due.told(Samples.ROUND);
         int[] whens = {2, 0, -2, 0, 2};
         int[] stays = {0, 3, 0, 300, 0};
         for (int p = 0; p < 5; p++) {
@@ -564,7 +558,7 @@ public final class PromisesTest {
     }
 
     private static void inAllWorlds() {
-        TrueInk x = Due.told(ROUND);
+        TrueInk x = Due.told(Samples.ROUND);
         int[] black = {1, 3, 0, 4, 2};
         int[] above = {1, 3, 0, 1, 5};
         int[] below = {4, 4, 1, 1, 8};
@@ -582,7 +576,8 @@ public final class PromisesTest {
         Due.is("weight(5, 0)", x.weight(5, 0), -1);
         Due.is("weight(0, 1)", x.weight(0, 1), -1);
         Due.is("weight(0, -1)", x.weight(0, -1), -1);
-        TrueInk y = Due.told("fact a 3 0; fact b 1 0; page w part a>0 and a>2 and a<3 and 1/(b-1)<0; page v all a<2 and a>1; page u some this=0 and a=b;");
+        TrueInk y = Due.told("fact a 3 0; fact b 1 0; page w part a>0 and a>2 and a<3 and 1/(b-1)<0; page v all a<2 and a>1; "
+                + "page u some this=0 and a=b;");
         Due.is("weakest(0, 0)", y.weakest(0, 0), 1);
         Due.is("weakest(0, 1)", y.weakest(0, 1), 6);
         Due.is("of alike ones the first", y.weakest(1, 0), 0);
@@ -604,7 +599,7 @@ public final class PromisesTest {
     }
 
     private static void bestWorld() {
-        TrueInk x = Due.told(ROUND);
+        TrueInk x = Due.told(Samples.ROUND);
         Due.is("its number", x.bestWorld(0), 2);
         Due.is("black ones", x.bestWorld(1), 4);
         Due.is("to be set", x.bestWorld(2), 1);
@@ -622,18 +617,8 @@ public final class PromisesTest {
         Due.is("none to be set", z.bestWorld(2), 0);
     }
 
-    /** Counts by fours up to 300, and stays there. */
-    private static String countTo300(int first) {
-        return "fact a 3 " + first + "; fact b 3 0; fact c 3 0; fact d 3 0; fact e 1 0;"
-                + "goes a = if 299<a+4*b+16*c+64*d+256*e then a else if a<3 then a+1 else 0;"
-                + "goes b = if a<3 then b else if b<3 then b+1 else 0;"
-                + "goes c = if a+b<6 then c else if c<3 then c+1 else 0;"
-                + "goes d = if a+b+c<9 then d else if d<3 then d+1 else 0;"
-                + "goes e = if a+b+c+d<12 then e else 1;";
-    }
-
     private static void again() {
-        TrueInk x = Due.told(ROUND);
+        TrueInk x = Due.told(Samples.ROUND);
         Due.is("behind", x.again(0), 4);
         Due.is("as behind", x.again(1), 0);
         Due.is("again(2)", x.again(2), -1);
@@ -647,14 +632,15 @@ public final class PromisesTest {
         // White, p, both, white.
         Due.is("behind", w.again(0), 3);
         Due.is("as behind", w.again(1), 0);
-        Due.is("301", Due.told(countTo300(0)).again(0), -2);
-        Due.is("301", Due.told(countTo300(0)).again(1), -2);
-        Due.is("300", Due.told(countTo300(1)).again(0), 300);
-        Due.is("as behind 299", Due.told(countTo300(1)).again(1), 299);
+        Due.is("301", Due.told(Samples.countTo300(0)).again(0), -2);
+        Due.is("301", Due.told(Samples.countTo300(0)).again(1), -2);
+        Due.is("300", Due.told(Samples.countTo300(1)).again(0), 300);
+        Due.is("as behind 299", Due.told(Samples.countTo300(1)).again(1), 299);
     }
 
     private static void twins() {
-        TrueInk x = Due.told("fact a 3 0; fact b 1 0; page p part a>0 and a>1 and a>2; page q all b=1; goes a = if a<2 then a else 2; goes b = 0;");
+        TrueInk x = Due.told("fact a 3 0; fact b 1 0; page p part a>0 and a>1 and a>2; page q all b=1; "
+                + "goes a = if a<2 then a else 2; goes b = 0;");
         Due.is("all unlike", x.twins(0, 0), -2);
         Due.is("all unlike", x.twins(0, 1), -2);
         // Behind a day 2 and 3 are alike, and b tells nothing; the first one that is like a lesser one is 3.
@@ -735,13 +721,13 @@ public final class PromisesTest {
             later += a;
         }
         Due.is("from now on", x.hopes(0, 2, 20), later);
-        Due.is("no slips: all or none", Due.told(ROUND).hopes(0, 2, 13), 13);
-        Due.is("no slips: all or none", Due.told(ROUND).hopes(0, 100, 13), 0);
-        Due.is("no slips: n 100", Due.told(ROUND).hopes(1, 100, 1), 1);
+        Due.is("no slips: all or none", Due.told(Samples.ROUND).hopes(0, 2, 13), 13);
+        Due.is("no slips: all or none", Due.told(Samples.ROUND).hopes(0, 100, 13), 0);
+        Due.is("no slips: n 100", Due.told(Samples.ROUND).hopes(1, 100, 1), 1);
     }
 
     private static void seen() {
-        TrueInk x = Due.told(ROUND);
+        TrueInk x = Due.told(Samples.ROUND);
         Due.is("no such page", x.see(5, 0, 0), -1);
         Due.is("no such page", x.see(-1, 0, 0), -1);
         Due.is("n 31", x.see(0, 31, 0), -1);
@@ -918,22 +904,22 @@ public final class PromisesTest {
 
     /** No answer leans on another question asked ahead of it. */
     private static void askedFirst() {
-        Due.is("blackIn", Due.told(ROUND).blackIn(4), 2);
-        Due.is("grey", Due.told(ROUND).grey(4, false), 5);
-        Due.is("weight", Due.told(ROUND).weight(4, 0), 3);
-        Due.is("weakest", Due.told(ROUND).weakest(4, 1), 2);
-        Due.is("bestWorld", Due.told(ROUND).bestWorld(2), 1);
-        Due.is("least", Due.told(ROUND).least(4, 1), 2);
-        Due.is("rests", Due.told(ROUND).rests(0, 4, -1), 1);
-        Due.is("again", Due.told(ROUND).again(0), 4);
-        Due.is("shade", Due.told(ROUND).shade(4, 1), 2);
-        TrueInk x = Due.told(ROUND);
+        Due.is("blackIn", Due.told(Samples.ROUND).blackIn(4), 2);
+        Due.is("grey", Due.told(Samples.ROUND).grey(4, false), 5);
+        Due.is("weight", Due.told(Samples.ROUND).weight(4, 0), 3);
+        Due.is("weakest", Due.told(Samples.ROUND).weakest(4, 1), 2);
+        Due.is("bestWorld", Due.told(Samples.ROUND).bestWorld(2), 1);
+        Due.is("least", Due.told(Samples.ROUND).least(4, 1), 2);
+        Due.is("rests", Due.told(Samples.ROUND).rests(0, 4, -1), 1);
+        Due.is("again", Due.told(Samples.ROUND).again(0), 4);
+        Due.is("shade", Due.told(Samples.ROUND).shade(4, 1), 2);
+        TrueInk x = Due.told(Samples.ROUND);
         x.see(4, 1, 2);
         Due.is("sure", x.sure(1), 1);
-        TrueInk y = Due.told(ROUND);
+        TrueInk y = Due.told(Samples.ROUND);
         y.see(4, 3, 0);
         Due.is("next", y.next(1, 1, 1), 1);
-        TrueInk z = Due.told(ROUND);
+        TrueInk z = Due.told(Samples.ROUND);
         z.see(1, 3, 0);
         Due.is("fits", z.fits(1, 0), 0);
     }
