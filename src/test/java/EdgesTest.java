@@ -53,6 +53,7 @@ public final class EdgesTest {
         restore();
         restoreAndAsk();
         count();
+        theLastCall();
         Doc.allPromisesNamed();
         Due.end();
     }
@@ -1012,5 +1013,22 @@ public final class EdgesTest {
         for (int w : outside(13)) {
             Due.is("count(" + w + ")", x.count(w), -1);
         }
+    }
+
+    /** "An object is used for at most 512 calls": the last one of them is answered as the first one is. */
+    private static void theLastCall() {
+        String text = "fact a 3 0;slips 50;";
+        TrueInk x = new TrueInk();
+        Due.feed(x, text);
+        Due.is("read", x.read(), 0);
+        // One feed, one back and one read; 508 times 100 days, and one question.
+        for (int i = 1; i <= 508; i++) {
+            Due.is("days", x.days(100), 100 * i);
+        }
+        int a = 0;
+        for (int d = 0; d < 50800; d++) {
+            a = Due.lot(0, 8 * d) < 50 ? (a + 1) % 4 : a;
+        }
+        Due.is("the 512th call", x.fact(0), a);
     }
 }
